@@ -1,0 +1,213 @@
+import java.util.Arrays;
+import java.util.List;
+import java.util.Random;
+
+/** Promises 5, 7, 8 and 10 to 16 on many pages, good and bad, held against the Oracle. */
+public final class OracleTest {
+    private static final Check CHECK = new Check();
+    private static final int[] SEEN = new int[13];
+
+    public static void main(String[] args) {
+        Random random = new Random(20261115);
+        for (int round = 0; round < 2500; round++) {
+            round(random, round);
+        }
+        for (int fault = 0; fault <= 12; fault++) {
+            CHECK.due("fault " + fault + " was met", SEEN[fault] > 0, true);
+        }
+        System.out.println("met, by fault: " + Arrays.toString(SEEN));
+        CHECK.finish();
+    }
+
+    private static void round(Random random, int round) {
+        int d = random.nextInt(3) == 0 ? 0 : random.nextInt(17);
+        Oracle oracle = new Oracle(random.nextInt(4), random.nextInt(d + 1), d);
+        PageForm form = new PageForm();
+        CHECK.due("column", form.column(oracle.type, oracle.mostR, oracle.mostD), true);
+        Oracle.Page page = randomPage(random, oracle, form, round % 50 == 0 ? 1000 : 1 + random.nextInt(150));
+        same("round " + round + " added", form, oracle, page);
+        for (int coding = 0; coding < oracle.codings(); coding++) {
+            byte[] due = Oracle.joined(oracle.head(page, coding), oracle.body(page, coding, null));
+            written("round " + round, form, coding, coding, due);
+        }
+        int shortest = oracle.shortest(page);
+        written("round " + round, form, -1, shortest,
+            Oracle.joined(oracle.head(page, shortest), oracle.body(page, shortest, null)));
+        CHECK.due("turn", form.turn(), true);
+        form.clear();
+        CHECK.due("read of what was written", form.read(), 0);
+        page.coding = shortest;
+        same("round " + round + " read again", form, oracle, page);
+        if (page.entries.size() <= 150) {
+            readLoose(random, oracle, page, round);
+        }
+    }
+
+    private static void written(String what, PageForm form, int asked, int coding, byte[] due) {
+        CHECK.due(what + " write(" + asked + ")", form.write(asked), due.length);
+        CHECK.due(what + " output of " + asked, Check.hex(Check.output(form)), Check.hex(due));
+        CHECK.due(what + " coding", form.about(2), coding);
+    }
+
+    private static Oracle.Page randomPage(Random random, Oracle oracle, PageForm form, int entries) {
+        Oracle.Page page = new Oracle.Page();
+        int kind = random.nextInt(4);
+        int nones = random.nextInt(4);
+        int bytes = 0;
+        while (page.entries.size() < entries) {
+            int n = random.nextInt(4) > 0 ? 1 : 1 + random.nextInt(20);
+            n = Math.min(n, entries - page.entries.size());
+            int r = random.nextInt(oracle.mostR + 1);
+            boolean valued = oracle.mostD == 0 || random.nextInt(3) >= nones;
+            int d = valued ? oracle.mostD : random.nextInt(oracle.mostD);
+            Object value = valued ? randomValue(random, oracle.type, kind) : null;
+            long number = 0;
+            boolean room = true;
+            if (value instanceof byte[] text) {
+                Check.input(form, text);
+                room = bytes + n * text.length <= 20000;
+                bytes += room ? n * text.length : 0;
+            } else if (value != null) {
+                number = (Long) value;
+            }
+            CHECK.due("add", form.add(r, d, number, n), room);
+            if (!room) {
+                return page;
+            }
+            for (int k = 0; k < n; k++) {
+                page.entries.add(new Oracle.Entry(r, d, value));
+            }
+        }
+        return page;
+    }
+
+    private static Object randomValue(Random random, int type, int kind) {
+        if (type == 0) {
+            return (long) (random.nextInt(kind + 2) == 0 ? 1 : 0);
+        }
+        if (type == 3) {
+            int most = kind == 0 ? 3 : kind == 1 ? 20 : kind == 2 ? 256 : 8;
+            byte[] text = new byte[random.nextInt(most)];
+            for (int k = 0; k < text.length; k++) {
+                text[k] = (byte) (kind == 3 ? 127 + random.nextInt(3) : kind == 1 ? 'a' + random.nextInt(2) : random.nextInt());
+            }
+            return text;
+        }
+        long[] odd = {0, -1, 1, Long.MIN_VALUE, Long.MAX_VALUE, Integer.MIN_VALUE, Integer.MAX_VALUE};
+        long v = kind == 0 ? random.nextInt(5) : kind == 1 ? random.nextInt(2000) - 1000
+            : kind == 2 ? random.nextLong() : odd[random.nextInt(odd.length)];
+        return type == 1 ? (long) (int) v : v;
+    }
+
+    private static void readLoose(Random random, Oracle oracle, Oracle.Page page, int round) {
+        for (int coding = 0; coding < oracle.codings(); coding++) {
+            byte[] head = oracle.head(page, coding);
+            byte[] body = oracle.body(page, coding, random);
+            read("round " + round + " loose", oracle, Oracle.joined(head, body));
+            for (int k = 0; k < 12; k++) {
+                read("round " + round + " body changed", oracle, Oracle.joined(head, changed(random, body)));
+            }
+            byte[] whole = Oracle.joined(head, body);
+            for (int k = 0; k < 3; k++) {
+                read("round " + round + " page changed", oracle, changed(random, whole));
+                read("round " + round + " head changed", oracle, Oracle.joined(changed(random, head), body));
+            }
+            Oracle other = new Oracle(random.nextInt(4), oracle.mostR, Math.max(oracle.mostR, random.nextInt(17)));
+            read("round " + round + " as another column", other, whole);
+        }
+    }
+
+    private static byte[] changed(Random random, byte[] bytes) {
+        byte[] all = bytes.clone();
+        int changes = 1 + random.nextInt(2);
+        for (int k = 0; k < changes; k++) {
+            // Most of what is told about the rest stands at the beginning.
+            int at = all.length == 0 ? 0 : random.nextBoolean() ? random.nextInt(Math.min(12, all.length)) : random.nextInt(all.length);
+            switch (all.length == 0 ? 0 : random.nextInt(8)) {
+                case 0:
+                    all = Arrays.copyOf(all, all.length + 1 + random.nextInt(2));
+                    break;
+                case 1:
+                    all = Arrays.copyOf(all, all.length - 1);
+                    break;
+                case 2:
+                    all[at] ^= (byte) (1 << random.nextInt(8));
+                    break;
+                case 3:
+                    all[at] = (byte) random.nextInt();
+                    break;
+                case 4:
+                    all[at] = 0;
+                    break;
+                case 5:
+                    all[at] = (byte) 255;
+                    break;
+                default:
+                    all[at] += (byte) (random.nextInt(5) - 2);
+                    break;
+            }
+        }
+        return all;
+    }
+
+    private static void read(String what, Oracle oracle, byte[] bytes) {
+        int due = 0;
+        Oracle.Page page = null;
+        try {
+            page = oracle.read(bytes);
+        } catch (Oracle.Fault fault) {
+            due = fault.number;
+        }
+        SEEN[due]++;
+        PageForm form = new PageForm();
+        form.column(oracle.type, oracle.mostR, oracle.mostD);
+        Check.input(form, bytes);
+        String all = what + " type " + oracle.type + " R " + oracle.mostR + " D " + oracle.mostD + " " + Check.hex(bytes);
+        CHECK.due(all, form.read(), due);
+        if (page != null) {
+            same(all, form, oracle, page);
+            CHECK.due(all + " coding", form.about(2), page.coding);
+            CHECK.due(all + " body", form.about(3), page.body);
+        } else {
+            CHECK.due(all + " left the page", form.about(0), 0);
+        }
+    }
+
+    private static void same(String what, PageForm form, Oracle oracle, Oracle.Page page) {
+        List<Object> values = page.values();
+        int entries = page.entries.size();
+        CHECK.due(what + " entries", form.about(0), entries);
+        CHECK.due(what + " nones", form.about(1), entries - values.size());
+        CHECK.due(what + " least", form.most(false), Oracle.most(values, false));
+        CHECK.due(what + " greatest", form.most(true), Oracle.most(values, true));
+        int next = 0;
+        for (int k = 0; k < entries; k++) {
+            Oracle.Entry entry = page.entries.get(k);
+            CHECK.due(what + " r " + k, form.level(k, 0), entry.r);
+            CHECK.due(what + " d " + k, form.level(k, 1), entry.d);
+            CHECK.due(what + " number " + k, form.level(k, 2), entry.value == null ? -1 : next);
+            if (entry.value != null) {
+                sameValue(what + " value " + next, form, next, entry.value);
+                next++;
+            }
+        }
+        CHECK.due(what + " no entry", form.level(entries, 0), -1);
+        CHECK.due(what + " no value", form.value(values.size()), 0);
+        CHECK.due(what + " no text", form.length(values.size()), -1);
+    }
+
+    private static void sameValue(String what, PageForm form, int i, Object value) {
+        if (!(value instanceof byte[])) {
+            CHECK.due(what, form.value(i), (Long) value);
+            CHECK.due(what + " has no length", form.length(i), -1);
+            return;
+        }
+        byte[] text = (byte[]) value;
+        CHECK.due(what, form.value(i), 0);
+        CHECK.due(what + " length", form.length(i), text.length);
+        for (int k = 0; k < text.length; k++) {
+            CHECK.due(what + " byte " + k, form.byteOf(i, k), text[k] & 255);
+        }
+        CHECK.due(what + " no byte", form.byteOf(i, text.length), -1);
+    }
+}
