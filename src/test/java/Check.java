@@ -1,13 +1,16 @@
 /** Counts the answers that are not as due, and what every test needs to bring bytes in. */
 final class Check {
     private int wrong;
+    private String where = "";
+
+    /** What the calls that come now belong to: told with each wrong answer. */
+    void in(String place) {
+        where = place + ": ";
+    }
 
     void due(String what, long got, long want) {
         if (got != want) {
-            wrong++;
-            if (wrong <= 20) {
-                System.out.println(what + " answered " + got + ", due is " + want);
-            }
+            tell(what, String.valueOf(got), String.valueOf(want));
         }
     }
 
@@ -17,10 +20,14 @@ final class Check {
 
     void due(String what, String got, String want) {
         if (!got.equals(want)) {
-            wrong++;
-            if (wrong <= 20) {
-                System.out.println(what + " answered " + got + ", due is " + want);
-            }
+            tell(what, got, want);
+        }
+    }
+
+    private void tell(String what, String got, String want) {
+        wrong++;
+        if (wrong <= 20) {
+            System.out.println(where + what + " answered " + got + ", due is " + want);
         }
     }
 

@@ -9,7 +9,7 @@ public final class OracleTest {
 
     public static void main(String[] args) {
         Random random = new Random(20261115);
-        for (int round = 0; round < 2500; round++) {
+        for (int round = 0; round < 500; round++) {
             round(random, round);
         }
         for (int fault = 0; fault <= 12; fault++) {
@@ -23,30 +23,29 @@ public final class OracleTest {
         int d = random.nextInt(3) == 0 ? 0 : random.nextInt(17);
         Oracle oracle = new Oracle(random.nextInt(4), random.nextInt(d + 1), d);
         PageForm form = new PageForm();
+        CHECK.in("round " + round);
         CHECK.due("column", form.column(oracle.type, oracle.mostR, oracle.mostD), true);
         Oracle.Page page = randomPage(random, oracle, form, round % 50 == 0 ? 1000 : 1 + random.nextInt(150));
-        same("round " + round + " added", form, oracle, page);
+        same(form, page);
         for (int coding = 0; coding < oracle.codings(); coding++) {
-            byte[] due = Oracle.joined(oracle.head(page, coding), oracle.body(page, coding, null));
-            written("round " + round, form, coding, coding, due);
+            written(form, coding, coding, Oracle.joined(oracle.head(page, coding), oracle.body(page, coding, null)));
         }
         int shortest = oracle.shortest(page);
-        written("round " + round, form, -1, shortest,
-            Oracle.joined(oracle.head(page, shortest), oracle.body(page, shortest, null)));
+        byte[] due = Oracle.joined(oracle.head(page, shortest), oracle.body(page, shortest, null));
+        written(form, -1, shortest, due);
         CHECK.due("turn", form.turn(), true);
         form.clear();
         CHECK.due("read of what was written", form.read(), 0);
-        page.coding = shortest;
-        same("round " + round + " read again", form, oracle, page);
+        same(form, page);
         if (page.entries.size() <= 150) {
-            readLoose(random, oracle, page, round);
+            readLoose(random, oracle, page, form);
         }
     }
 
-    private static void written(String what, PageForm form, int asked, int coding, byte[] due) {
-        CHECK.due(what + " write(" + asked + ")", form.write(asked), due.length);
-        CHECK.due(what + " output of " + asked, Check.hex(Check.output(form)), Check.hex(due));
-        CHECK.due(what + " coding", form.about(2), coding);
+    private static void written(PageForm form, int asked, int coding, byte[] due) {
+        CHECK.due("write(" + asked + ")", form.write(asked), due.length);
+        CHECK.due("output of write(" + asked + ")", Check.hex(Check.output(form)), Check.hex(due));
+        CHECK.due("about(2)", form.about(2), coding);
     }
 
     private static Oracle.Page randomPage(Random random, Oracle oracle, PageForm form, int entries) {
@@ -99,21 +98,21 @@ public final class OracleTest {
         return type == 1 ? (long) (int) v : v;
     }
 
-    private static void readLoose(Random random, Oracle oracle, Oracle.Page page, int round) {
+    private static void readLoose(Random random, Oracle oracle, Oracle.Page page, PageForm form) {
         for (int coding = 0; coding < oracle.codings(); coding++) {
             byte[] head = oracle.head(page, coding);
             byte[] body = oracle.body(page, coding, random);
-            read("round " + round + " loose", oracle, Oracle.joined(head, body));
-            for (int k = 0; k < 12; k++) {
-                read("round " + round + " body changed", oracle, Oracle.joined(head, changed(random, body)));
-            }
             byte[] whole = Oracle.joined(head, body);
+            read(form, oracle, whole);
+            for (int k = 0; k < 12; k++) {
+                read(form, oracle, Oracle.joined(head, changed(random, body)));
+            }
             for (int k = 0; k < 3; k++) {
-                read("round " + round + " page changed", oracle, changed(random, whole));
-                read("round " + round + " head changed", oracle, Oracle.joined(changed(random, head), body));
+                read(form, oracle, changed(random, whole));
+                read(form, oracle, Oracle.joined(changed(random, head), body));
             }
             Oracle other = new Oracle(random.nextInt(4), oracle.mostR, Math.max(oracle.mostR, random.nextInt(17)));
-            read("round " + round + " as another column", other, whole);
+            read(form, other, whole);
         }
     }
 
@@ -150,7 +149,7 @@ public final class OracleTest {
         return all;
     }
 
-    private static void read(String what, Oracle oracle, byte[] bytes) {
+    private static void read(PageForm form, Oracle oracle, byte[] bytes) {
         int due = 0;
         Oracle.Page page = null;
         try {
@@ -159,55 +158,54 @@ public final class OracleTest {
             due = fault.number;
         }
         SEEN[due]++;
-        PageForm form = new PageForm();
+        CHECK.in("type " + oracle.type + " R " + oracle.mostR + " D " + oracle.mostD + " " + Check.hex(bytes));
         form.column(oracle.type, oracle.mostR, oracle.mostD);
         Check.input(form, bytes);
-        String all = what + " type " + oracle.type + " R " + oracle.mostR + " D " + oracle.mostD + " " + Check.hex(bytes);
-        CHECK.due(all, form.read(), due);
-        if (page != null) {
-            same(all, form, oracle, page);
-            CHECK.due(all + " coding", form.about(2), page.coding);
-            CHECK.due(all + " body", form.about(3), page.body);
-        } else {
-            CHECK.due(all + " left the page", form.about(0), 0);
+        CHECK.due("read()", form.read(), due);
+        if (page == null) {
+            CHECK.due("about(0)", form.about(0), 0);
+            return;
         }
+        same(form, page);
+        CHECK.due("about(2)", form.about(2), page.coding);
+        CHECK.due("about(3)", form.about(3), page.body);
     }
 
-    private static void same(String what, PageForm form, Oracle oracle, Oracle.Page page) {
+    private static void same(PageForm form, Oracle.Page page) {
         List<Object> values = page.values();
         int entries = page.entries.size();
-        CHECK.due(what + " entries", form.about(0), entries);
-        CHECK.due(what + " nones", form.about(1), entries - values.size());
-        CHECK.due(what + " least", form.most(false), Oracle.most(values, false));
-        CHECK.due(what + " greatest", form.most(true), Oracle.most(values, true));
+        CHECK.due("about(0)", form.about(0), entries);
+        CHECK.due("about(1)", form.about(1), entries - values.size());
+        CHECK.due("most(false)", form.most(false), Oracle.most(values, false));
+        CHECK.due("most(true)", form.most(true), Oracle.most(values, true));
         int next = 0;
         for (int k = 0; k < entries; k++) {
             Oracle.Entry entry = page.entries.get(k);
-            CHECK.due(what + " r " + k, form.level(k, 0), entry.r);
-            CHECK.due(what + " d " + k, form.level(k, 1), entry.d);
-            CHECK.due(what + " number " + k, form.level(k, 2), entry.value == null ? -1 : next);
+            CHECK.due("level(.., 0)", form.level(k, 0), entry.r);
+            CHECK.due("level(.., 1)", form.level(k, 1), entry.d);
+            CHECK.due("level(.., 2)", form.level(k, 2), entry.value == null ? -1 : next);
             if (entry.value != null) {
-                sameValue(what + " value " + next, form, next, entry.value);
+                sameValue(form, next, entry.value);
                 next++;
             }
         }
-        CHECK.due(what + " no entry", form.level(entries, 0), -1);
-        CHECK.due(what + " no value", form.value(values.size()), 0);
-        CHECK.due(what + " no text", form.length(values.size()), -1);
+        CHECK.due("level behind the last", form.level(entries, 0), -1);
+        CHECK.due("value behind the last", form.value(values.size()), 0);
+        CHECK.due("length behind the last", form.length(values.size()), -1);
     }
 
-    private static void sameValue(String what, PageForm form, int i, Object value) {
+    private static void sameValue(PageForm form, int i, Object value) {
         if (!(value instanceof byte[])) {
-            CHECK.due(what, form.value(i), (Long) value);
-            CHECK.due(what + " has no length", form.length(i), -1);
+            CHECK.due("value", form.value(i), (Long) value);
+            CHECK.due("length of a number", form.length(i), -1);
             return;
         }
         byte[] text = (byte[]) value;
-        CHECK.due(what, form.value(i), 0);
-        CHECK.due(what + " length", form.length(i), text.length);
+        CHECK.due("value of a text", form.value(i), 0);
+        CHECK.due("length", form.length(i), text.length);
         for (int k = 0; k < text.length; k++) {
-            CHECK.due(what + " byte " + k, form.byteOf(i, k), text[k] & 255);
+            CHECK.due("byteOf", form.byteOf(i, k), text[k] & 255);
         }
-        CHECK.due(what + " no byte", form.byteOf(i, text.length), -1);
+        CHECK.due("byteOf behind the last", form.byteOf(i, text.length), -1);
     }
 }
