@@ -22,6 +22,7 @@ public final class FaultsTest {
         manyBytes();
         leastAndGreatest();
         whatStays();
+        whatIsNew();
         CHECK.finish();
     }
 
@@ -274,6 +275,7 @@ public final class FaultsTest {
         // Seventeen differences stand in two parts of the block, sixty-five in two blocks.
         page(0, "12 00 01 00 02", "12 00 00 00 01 00 00 01 00");
         page(5, "12 00 01 00 02", "12 00 00 00 01 01 00 01 00 00 00");
+        page(5, "11 00 01 00 02", "11 00 00 01 01 00 00 01 00 00 00");
         page(0, "42 00 01 00 02", "42 00 00 00 00 00 00 02 00 00 00 00");
         page(1, "42 00 01 00 02", "42 00 00 00 00 00 00");
         column(2, 0, 1);
@@ -475,5 +477,38 @@ public final class FaultsTest {
         CHECK.due("level(2, 2)", form.level(2, 2), 1);
         form.clear();
         CHECK.due("the INPUT stays", form.read(), 0);
+    }
+
+    /** Nothing of a page that was read before shows in the next one. */
+    private static void whatIsNew() {
+        CHECK.in("one page after the other");
+        PageForm form = new PageForm();
+        for (int k = 0; k < 2; k++) {
+            form.column(0, 1, 1);
+            Check.input(form, Check.page("03 00 01 00 01", "02 06 01 02 06 01 03 05"));
+            CHECK.due("read", form.read(), 0);
+            CHECK.due("level(2, 0)", form.level(2, 0), 1);
+            CHECK.due("value(0)", form.value(0), 1);
+            CHECK.due("value(1)", form.value(1), 0);
+            CHECK.due("value(2)", form.value(2), 1);
+        }
+        for (int k = 0; k < 2; k++) {
+            form.column(0, 0, 0);
+            Check.input(form, Check.page("02 00 01 00 01", "03 01"));
+            CHECK.due("read", form.read(), 0);
+            CHECK.due("level(0, 0)", form.level(0, 0), 0);
+            CHECK.due("level(1, 1)", form.level(1, 1), 0);
+            CHECK.due("level(2, 1)", form.level(2, 1), -1);
+            CHECK.due("value(2)", form.value(2), 0);
+        }
+        form.column(3, 0, 0);
+        Check.input(form, Check.page("02 00 02 02 41 42 02 41 43",
+            "07 02 00 02 00 00 00 00  07 02 04 01 00 00 00 00  41 42 43"));
+        CHECK.due("read in two parts", form.read(), 0);
+        CHECK.due("byteOf(1, 0)", form.byteOf(1, 0), 0x41);
+        Check.input(form, Check.page("02 00 01 01 41 02 42 43", "07 02 02 02 00 00 00 00  41 42 43"));
+        CHECK.due("read by lengths", form.read(), 0);
+        CHECK.due("length(1)", form.length(1), 2);
+        CHECK.due("byteOf(1, 0)", form.byteOf(1, 0), 0x42);
     }
 }

@@ -325,6 +325,10 @@ public final class StateTest {
         for (int i : new int[] {-1, 2, 1000, MIN, MAX}) {
             CHECK.due("value(" + i + ")", form.value(i), 0);
         }
+        form.clear();
+        form.add(0, 1, 4, 1);
+        CHECK.due("value(0) of the new page", form.value(0), 4);
+        CHECK.due("value(1) of the old page", form.value(1), 0);
         form.column(3, 0, 0);
         Check.input(form, "x");
         form.add(0, 0, 77, 1);

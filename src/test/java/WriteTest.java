@@ -50,6 +50,8 @@ public final class WriteTest {
         CHECK.in("bools, seven the same are no run");
         due(of(0, 0, 0, 1, 1, 1, 1, 1, 1, 1), 1, "07 00 01 01 01", "03 7f");
         due(of(0, 0, 0, 1, 1, 1, 1, 1, 1, 1, 1), 1, "08 00 01 01 01", "10 01");
+        CHECK.in("bools, all but the second are the same");
+        due(of(0, 0, 0, 1, 0, 1, 1, 1, 1, 1, 1), 1, "08 00 01 00 01", "03 fd");
         CHECK.in("bools, groups until one begins with eight the same");
         form = of(0, 0, 0, 1, 0, 0, 0, 0, 0, 0, 0, /**/ 0, 0, 0, 0, 0, 0, 0, 0, /**/ 1);
         due(form, 1, "11 00 01 00 01", "03 01 10 00 03 01");
