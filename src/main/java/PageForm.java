@@ -1176,6 +1176,10 @@ public final class PageForm {
                     takeSizedCode(commons);
                 }
                 takeSizedCode(numbers);
+                // Told whole, a wrong length is found before all bytes; in two parts only with its own text.
+                if (coding != IN_TWO_PARTS) {
+                    lookAtLengths();
+                }
                 takeTexts(into);
             } else {
                 mustBeCount(source.code(numbers));
@@ -1226,6 +1230,14 @@ public final class PageForm {
         private void takeNumbers(Values into) {
             for (int i = 0; i < count && source.fault == 0; i++) {
                 takeNumber(into, numbers[i]);
+            }
+        }
+
+        private void lookAtLengths() {
+            for (int i = 0; i < count && source.fault == 0; i++) {
+                if (numbers[i] < 0 || numbers[i] > MOST_TEXT) {
+                    source.fail(RANGE);
+                }
             }
         }
 

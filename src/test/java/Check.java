@@ -1,5 +1,7 @@
 /** Counts the answers that are not as due, and what every test needs to bring bytes in. */
 final class Check {
+    private static final int MOST_TOLD = 400;
+
     private int wrong;
     private String where = "";
 
@@ -27,7 +29,8 @@ final class Check {
     private void tell(String what, String got, String want) {
         wrong++;
         if (wrong <= 20) {
-            System.out.println(where + what + " answered " + got + ", due is " + want);
+            String told = what.length() <= MOST_TOLD ? what : what.substring(0, MOST_TOLD) + "..";
+            System.out.println(where + told + " answered " + got + ", due is " + want);
         }
     }
 
@@ -87,16 +90,6 @@ final class Check {
 
     /** A page of a head (up to the GREATEST) and a body, with the right size and CHECK between. */
     static byte[] page(String head, String body) {
-        byte[] bodyBytes = bytes(body);
-        java.util.zip.CRC32 crc = new java.util.zip.CRC32();
-        crc.update(bodyBytes);
-        StringBuilder all = new StringBuilder(head);
-        int size = bodyBytes.length;
-        all.append(size < 128 ? String.format("%02x", size) : String.format("%02x%02x", size & 127 | 128, size >> 7));
-        for (int k = 0; k < 4; k++) {
-            all.append(String.format("%02x", crc.getValue() >> (8 * k) & 255));
-        }
-        all.append(hex(bodyBytes));
-        return bytes(all.toString());
+        return Oracle.joined(bytes(head), bytes(body));
     }
 }

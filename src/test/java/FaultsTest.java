@@ -17,6 +17,7 @@ public final class FaultsTest {
         boolRuns();
         codes();
         codedTexts();
+        lengthsOfManyBytes();
         textsInTwoParts();
         dictionaries();
         manyBytes();
@@ -307,9 +308,37 @@ public final class FaultsTest {
         page(6, head, lengths + "41 42 43 44");
         page(7, head, "07 02 01 02 00 00 00 00 41 42 43");
         page(7, head, "08 02 fe 03 02 00 00 00 00" + "41".repeat(300));
-        // Text by text: the first one's bytes lack before the second one's length is looked at.
-        page(1, head, "08 02 02 80 04 00 00 00 00");
+        page(7, head, "07 02 02 03 00 00 00 00 41 42 43");
+        // All lengths are looked at before the bytes, of which the first one's lacks: 1 and 257, 256, 255, -1, 0.
+        page(7, head, "08 02 02 80 04 00 00 00 00");
         page(7, head, "08 02 02 80 04 00 00 00 00 41");
+        page(7, head, "08 02 02 fe 03 00 00 00 00");
+        page(1, head, "08 02 02 fc 03 00 00 00 00");
+        page(7, head, "07 02 02 03 00 00 00 00");
+        page(1, head, "07 02 02 01 00 00 00 00");
+        page(7, head, "10 02 02" + HUGE + "00 00 00 00");
+        // But not before the CODE has been read, and has as many as there are values.
+        page(4, "03 00 01 01 41 02 42 43", "08 02 02 80 04 00 00 00 00");
+        page(6, head, "09 02 02 80 04 00 00 00 00 00");
+    }
+
+    /** Lengths in range of more than 20000 bytes: that comes with each text in its turn, not before the bytes. */
+    private static void lengthsOfManyBytes() {
+        column(3, 0, 0);
+        String head = "50 00 01 00 00";
+        long[] lengths = new long[80];
+        java.util.Arrays.fill(lengths, 255);
+        page(1, head, sizedCode(lengths));
+        page(1, head, sizedCode(lengths) + "41".repeat(78 * 255));
+        page(7, head, sizedCode(lengths) + "41".repeat(79 * 255));
+        lengths[79] = 256;
+        page(7, head, sizedCode(lengths));
+        page(7, head, sizedCode(lengths) + "41".repeat(78 * 255));
+    }
+
+    private static String sizedCode(long[] row) {
+        byte[] code = Oracle.code(row, null);
+        return Check.hex(Oracle.varint(code.length)) + Check.hex(code);
     }
 
     private static void textsInTwoParts() {
@@ -336,6 +365,11 @@ public final class FaultsTest {
         // 255 and then one in common and 255 more: 256.
         page(7, "02 00 02 00 00", common + "08 02 fe 03 00 00 00 00 00" + "41".repeat(510));
         page(1, "02 00 02 00 00", common + "08 02 fe 03 01 00 00 00 00" + "41".repeat(255));
+        // Text by text: the first one's bytes lack before what the second one has is looked at.
+        page(1, head, common + "08 02 02 80 04 00 00 00 00");
+        page(7, head, common + "08 02 02 80 04 00 00 00 00" + "41");
+        page(1, head, "07 02 00 06 00 00 00 00" + more);
+        page(7, head, "07 02 00 06 00 00 00 00" + more + "41 42");
         column(3, 0, 1);
         page(0, "01 01 02", "02 02 00 01 00 01 00");
         page(6, "01 01 02", "02 02 00 01 00 01 00 00");
@@ -400,10 +434,7 @@ public final class FaultsTest {
             long[] more = new long[n];
             java.util.Arrays.fill(in, 1, n, 255);
             more[0] = 255;
-            byte[] first = Oracle.code(in, null);
-            byte[] second = Oracle.code(more, null);
-            String body = Check.hex(Oracle.varint(first.length)) + Check.hex(first)
-                + Check.hex(Oracle.varint(second.length)) + Check.hex(second) + "41".repeat(255);
+            String body = sizedCode(in) + sizedCode(more) + "41".repeat(255);
             page(n == 78 ? 0 : 7, Integer.toHexString(n) + "00 02" + text + text, body);
             // Found in its turn: before the bytes that lack behind it, or are too many.
             page(n == 78 ? 6 : 7, Integer.toHexString(n) + "00 02" + text + text, body + "00");

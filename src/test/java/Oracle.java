@@ -554,6 +554,9 @@ final class Oracle {
             common = readCode(new Tape(tape.take(tape.varint())), n);
         }
         List<Long> more = readCode(new Tape(tape.take(tape.varint())), n);
+        if (!twoParts && more.stream().anyMatch(k -> k < 0 || k > 255)) {
+            throw new Fault(7);
+        }
         List<Object> all = new ArrayList<>();
         byte[] before = new byte[0];
         for (int i = 0; i < n; i++) {
