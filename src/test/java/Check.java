@@ -75,7 +75,7 @@ final class Check {
     static String hex(byte[] all) {
         StringBuilder text = new StringBuilder();
         for (byte b : all) {
-            text.append(String.format("%02x", b));
+            text.append(Character.forDigit(b >> 4 & 15, 16)).append(Character.forDigit(b & 15, 16));
         }
         return text.toString();
     }
@@ -86,6 +86,52 @@ final class Check {
             all.write(form.output(k));
         }
         return all.toByteArray();
+    }
+
+    /** An object of the column with a page of one entry, and these bytes as its INPUT. */
+    static PageForm holding(int type, int r, int d, byte... bytes) {
+        PageForm form = new PageForm();
+        form.column(type, r, d);
+        form.add(0, d, 1, 1);
+        input(form, bytes);
+        return form;
+    }
+
+    /** A new object READs the bytes: the fault, and whether the page has stayed just if there is one. */
+    void read(int type, int r, int d, int fault, byte[] bytes) {
+        PageForm form = holding(type, r, d, bytes);
+        String before = seen(form);
+        String told = "read of " + hex(bytes) + " as column(" + type + ", " + r + ", " + d + ")";
+        due(told, form.read(), fault);
+        due("the page stays, " + told, seen(form).equals(before), fault != 0);
+    }
+
+    /** All that can be seen of an object without changing it; of the page and the output the first ones. */
+    static String seen(PageForm form) {
+        StringBuilder all = new StringBuilder();
+        for (int what = 0; what < 4; what++) {
+            all.append(form.about(what)).append(' ');
+        }
+        all.append(form.most(false)).append(' ').append(form.most(true));
+        for (int k = 0; k < 10; k++) {
+            all.append(" | ").append(form.level(k, 0)).append(' ').append(form.level(k, 1)).append(' ')
+                .append(form.level(k, 2)).append(' ').append(form.value(k)).append(' ').append(form.length(k))
+                .append(' ').append(form.byteOf(k, 0)).append(' ').append(form.output(k));
+        }
+        return all.toString();
+    }
+
+    /** The INPUT, if it is short enough for a text; the column and the page are others then. */
+    static String inputOf(PageForm form) {
+        form.column(3, 0, 0);
+        if (!form.add(0, 0, 0, 1)) {
+            return "too long";
+        }
+        byte[] text = new byte[form.length(0)];
+        for (int k = 0; k < text.length; k++) {
+            text[k] = (byte) form.byteOf(0, k);
+        }
+        return hex(text);
     }
 
     /** A page of a head (up to the GREATEST) and a body, with the right size and CHECK between. */
