@@ -1,14 +1,20 @@
+import java.lang.reflect.Array;
 import java.lang.reflect.Constructor;
 import java.lang.reflect.Field;
 import java.lang.reflect.Method;
 import java.lang.reflect.Modifier;
 import java.nio.file.Files;
 import java.nio.file.Path;
+import java.util.ArrayList;
+import java.util.IdentityHashMap;
+import java.util.List;
+import java.util.Map;
 import java.util.Set;
 import java.util.StringJoiner;
 import java.util.TreeSet;
 import java.util.regex.Matcher;
 import java.util.regex.Pattern;
+import java.util.stream.Stream;
 
 /** The public face, as it stands in the document and no other; and what of LANGUAGE.md can be seen. */
 public final class FaceTest {
@@ -21,6 +27,8 @@ public final class FaceTest {
 
     public static void main(String[] args) throws Exception {
         members();
+        limits();
+        room();
         source();
         CHECK.finish();
     }
@@ -67,6 +75,47 @@ public final class FaceTest {
         CHECK.due("a name of the face is used again: " + method.getName(), taken, false);
     }
 
+    /** LANGUAGE.md, rule 11: what can be counted. */
+    private static void limits() {
+        List<Class<?>> all = new ArrayList<>(List.of(PageForm.class.getDeclaredClasses()));
+        all.add(PageForm.class);
+        CHECK.due("at most twelve classes", all.size() <= 12, true);
+        for (Class<?> one : all) {
+            long fields = Stream.of(one.getDeclaredFields()).filter(f -> !Modifier.isStatic(f.getModifiers())).count();
+            CHECK.due("at most twenty fields in " + one.getName(), fields <= 20, true);
+            for (Method method : one.getDeclaredMethods()) {
+                CHECK.due("at most seven parameters of " + method, method.getParameterCount() <= 7, true);
+            }
+        }
+    }
+
+    /** An object with all its rows takes little of the room of one run, which has 7300000 elements. */
+    private static void room() throws Exception {
+        long elements = elementsOf(new PageForm(), new IdentityHashMap<>());
+        CHECK.due("an object has at most 250000 elements", elements <= 250000, true);
+    }
+
+    private static long elementsOf(Object object, Map<Object, Boolean> counted) throws Exception {
+        if (object == null || counted.put(object, true) != null) {
+            return 0;
+        }
+        if (object.getClass().isArray()) {
+            return Array.getLength(object);
+        }
+        long elements = 0;
+        for (Field field : object.getClass().getDeclaredFields()) {
+            if (Modifier.isStatic(field.getModifiers())) {
+                continue;
+            }
+            elements++;
+            if (!field.getType().isPrimitive()) {
+                field.setAccessible(true);
+                elements += elementsOf(field.get(object), counted);
+            }
+        }
+        return elements;
+    }
+
     private static void source() throws Exception {
         String all = Files.readString(Path.of("src/main/java/PageForm.java"));
         String code = all.replaceAll("(?s)/\\*.*?\\*/", "").replaceAll("//[^\n]*", "");
@@ -76,6 +125,13 @@ public final class FaceTest {
         };
         for (String form : without) {
             CHECK.due("the program holds " + form, Pattern.compile(form).matcher(code).find(), false);
+        }
+        // All that is made is made for a field: a call makes nothing.
+        Matcher made = Pattern.compile("(?m)^(.*)\\bnew\\b.*$").matcher(code);
+        Pattern field = Pattern.compile("( {4}| {8})private (final )?\\S+ \\S+ = | {8}final \\S+ \\S+ = "
+            + "| {12}(numbers|texts|starts|row|source) = ");
+        while (made.find()) {
+            CHECK.due("made in a call:" + made.group(), field.matcher(made.group(1)).matches(), true);
         }
         Matcher imports = Pattern.compile("import ([^;]*);").matcher(code);
         while (imports.find()) {

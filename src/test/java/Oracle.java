@@ -296,7 +296,7 @@ final class Oracle {
         return type == 0 ? runs(row, 1, loose) : code(row, loose);
     }
 
-    byte[] body(Page page, int coding, Random loose) {
+    byte[] levels(Page page, Random loose) {
         ByteArrayOutputStream out = new ByteArrayOutputStream();
         if (mostR > 0) {
             out.writeBytes(sized(runs(page.entries.stream().mapToLong(e -> e.r).toArray(), width(mostR), loose)));
@@ -304,6 +304,12 @@ final class Oracle {
         if (mostD > 0) {
             out.writeBytes(sized(runs(page.entries.stream().mapToLong(e -> e.d).toArray(), width(mostD), loose)));
         }
+        return out.toByteArray();
+    }
+
+    byte[] body(Page page, int coding, Random loose) {
+        ByteArrayOutputStream out = new ByteArrayOutputStream();
+        out.writeBytes(levels(page, loose));
         out.writeBytes(values(page.values(), coding, loose));
         return out.toByteArray();
     }

@@ -12,6 +12,11 @@ public final class OracleTest {
         for (int round = 0; round < 500; round++) {
             round(random, round);
         }
+        for (int type = 0; type < 4; type++) {
+            for (int[] levels : new int[][] {{0, 0}, {0, 1}, {1, 2}}) {
+                everyShortBody(new Oracle(type, levels[0], levels[1]));
+            }
+        }
         for (int fault = 0; fault <= 12; fault++) {
             CHECK.due("fault " + fault + " was met", SEEN[fault] > 0, true);
         }
@@ -113,6 +118,34 @@ public final class OracleTest {
             }
             Oracle other = new Oracle(random.nextInt(4), oracle.mostR, Math.max(oracle.mostR, random.nextInt(17)));
             read(form, other, whole);
+        }
+    }
+
+    /** Right levels with every row of up to three telling bytes behind them. */
+    private static void everyShortBody(Oracle oracle) {
+        for (int entries : new int[] {1, 2, 9}) {
+            for (int coding = 0; coding < oracle.codings(); coding++) {
+                Oracle.Page page = new Oracle.Page();
+                for (int k = 0; k < entries; k++) {
+                    Object value = oracle.type == 3 ? new byte[] {} : Long.valueOf(1);
+                    page.entries.add(new Oracle.Entry(0, oracle.mostD, value));
+                }
+                everyTail(oracle, oracle.head(page, coding), oracle.levels(page, null));
+            }
+        }
+    }
+
+    private static void everyTail(Oracle oracle, byte[] head, byte[] levels) {
+        int[] telling = {0, 1, 2, 3, 4, 5, 0x10, 0x12, 0x13, 0x21, 0x41, 0x80, 0xFF};
+        PageForm form = new PageForm();
+        for (int length = 0, rows = 1; length <= 3; length++, rows *= telling.length) {
+            for (int row = 0; row < rows; row++) {
+                byte[] body = Arrays.copyOf(levels, levels.length + length);
+                for (int k = 0, left = row; k < length; k++, left /= telling.length) {
+                    body[levels.length + k] = (byte) telling[left % telling.length];
+                }
+                read(form, oracle, Oracle.joined(head, body));
+            }
         }
     }
 
